@@ -810,7 +810,7 @@ public final class FarEditors {
         void pass(int n) {
             left -= n;
             if (left <= 0) {
-                at = Math.min(at + 1, op.size);
+                at += at < op.size ? 1 : 0;
                 part = at < op.size ? op.parts[at] : 0;
                 left = part < 0 ? -part : part > Op.KEPT ? part - Op.KEPT : part > 0 ? 1 : 0;
             }
@@ -1646,7 +1646,7 @@ public final class FarEditors {
 
         boolean readSession() {
             open();
-            for (boolean goesOn = true; goesOn && count < MOST_STATEMENTS; goesOn = fault == 0 && at < length) {
+            for (int n = 0; n < MOST_STATEMENTS && fault == 0 && (n == 0 || at < length); n++) {
                 int kind = readKeyword();
                 kinds[count] = kind;
                 if (kind != NONE && readRest(kind) && readSign(';')) {

@@ -7,15 +7,22 @@ import java.util.Random;
 /** Runs of drawn calls on FarEditors and on the model: every answer, and all that can be asked, is alike. */
 public final class ModelTest {
     private static int wrong = 0;
-    private static final int RUNS = Integer.getInteger("runs", 400);
+    private static final int RUNS = Integer.getInteger("runs", 250);
 
     private final Random draw;
     private final FarEditors real = new FarEditors();
     private final Model model = new Model();
     private final List<String> calls = new ArrayList<>();
     private boolean failed = false;
+    /** Crowded: all happens at the first few places. Busy: up to the limits, seldom taken back. */
+    private final boolean isCrowded;
+    private final boolean isBusy;
 
-    private ModelTest(long seed) { draw = new Random(seed); }
+    private ModelTest(long seed) {
+        draw = new Random(seed);
+        isCrowded = draw.nextInt(3) == 0;
+        isBusy = draw.nextInt(4) == 0;
+    }
 
     private static Object call(Object on, String name, Object... args) {
         for (Method m : on.getClass().getDeclaredMethods()) {
@@ -86,8 +93,9 @@ public final class ModelTest {
 
     private String session() {
         int eds = 2 + draw.nextInt(3);
-        String text = word(draw.nextInt(3) == 0 ? 40 : 8);
+        String text = word(isCrowded ? 3 : draw.nextInt(3) == 0 ? 40 : 8);
         StringBuilder b = new StringBuilder("text " + text + " editors " + eds + ";");
+        if (draw.nextBoolean()) b.append("ties " + draw.nextInt(3) + ";");
         int n = draw.nextInt(draw.nextInt(20) == 0 ? 64 : 8);
         for (int i = 0; i < n; i++) {
             int e = draw.nextInt(eds);
@@ -141,7 +149,11 @@ public final class ModelTest {
 
     private int editor() { return draw.nextInt(25) == 0 ? draw.nextInt(7) - 2 : draw.nextInt(Math.max(1, model.s.eds.size())); }
 
-    private int place(int e) { return draw.nextInt(20) == 0 ? any(300) : draw.nextInt(model.is(e) ? model.s.eds.get(e).text.length() + 1 : 3); }
+    private int place(int e) {
+        if (draw.nextInt(20) == 0) return any(300);
+        int n = model.is(e) ? model.s.eds.get(e).text.length() + 1 : 3;
+        return draw.nextInt(isCrowded ? Math.min(n, 3) : n);
+    }
 
     private void act() {
         int e = editor();
@@ -168,10 +180,10 @@ public final class ModelTest {
             case 14: case 15: same("redo", e); break;
             case 16: same("line", e, draw.nextInt(3) != 0); break;
             case 17: same("delay", e, draw.nextInt(5) == 0 ? any(12) : draw.nextInt(4)); break;
-            case 18: case 19: case 20: same("ticks", draw.nextInt(8) == 0 ? any(101) : 1 + draw.nextInt(3)); break;
-            case 21: same("chance", draw.nextInt(8) == 0 ? any(42) : 1 + draw.nextInt(6)); break;
+            case 18: case 19: case 20: same("ticks", draw.nextInt(8) == 0 ? any(101) : 1 + draw.nextInt(isCrowded ? 2 : 3)); break;
+            case 21: same("chance", draw.nextInt(8) == 0 ? any(42) : 1 + draw.nextInt(isBusy ? 40 : 6)); break;
             case 22: {
-                int n = draw.nextInt(10) == 0 ? 25 : 1 + draw.nextInt(3);
+                int n = isBusy ? draw.nextInt(2) : draw.nextInt(10) == 0 ? 25 : 1 + draw.nextInt(3);
                 for (int i = 0; i < n; i++) same("back");
                 break;
             }
@@ -230,13 +242,13 @@ public final class ModelTest {
 
     private void run() {
         if (draw.nextInt(4) == 0) askWidely();
-        newSession();
-        int n = 10 + draw.nextInt(80);
+        for (int i = 0; i < 5 && !model.told(); i++) newSession();
+        int n = 10 + draw.nextInt(isBusy ? 200 : 80);
         for (int i = 0; i < n && !failed; i++) {
             act();
             if (draw.nextInt(12) == 0) askWidely();
             if (draw.nextInt(12) == 0) askDeeply();
-            if (draw.nextInt(60) == 0) newSession();
+            if (draw.nextInt(isBusy ? 300 : 60) == 0) newSession();
             if (draw.nextInt(40) == 0) same("seed", any(1000));
         }
         if (!failed) {

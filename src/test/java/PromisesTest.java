@@ -215,6 +215,26 @@ public final class PromisesTest {
         y.seed(7);
         y.chance(1);
         due(4, "the seed stays", text(x, 0) + text(x, 1), text(y, 0) + text(y, 1));
+        sessionBehindAnother();
+    }
+
+    private static void sessionBehindAnother() {
+        String rich = "text abc editors 2;ties 2;delay 0 5;edit 0 +x;edit 0 -1;edit 1 -2;cursor 0 1;mark 0 0 1 1;tick 9;"
+            + "edit 0 +xy;edit 0 +z;off 0;";
+        FarEditors x = told(rich);
+        x.undo(0);
+        due(4, "ends of the one", x.ends(0, NONE), 2);
+        session(x, "text pq editors 2;");
+        FarEditors y = told("text pq editors 2;");
+        for (int what = 0; what <= 10; what++) {
+            due(4, "has(" + what + ") as of a new object", x.has(what), y.has(what));
+        }
+        for (int what = 0; what <= 11; what++) {
+            due(4, "editor(0, " + what + ") as of a new object", x.editor(0, what), y.editor(0, what));
+        }
+        due(4, "share(1, 1) as of a new object", x.share(1, 1), 0);
+        due(4, "ends of the other", letters(k -> x.ends(0, k)), "pq");
+        due(4, "what there was", letters(k -> x.was(0, k)), "pq");
     }
 
     private static void faults() {
@@ -363,6 +383,11 @@ public final class PromisesTest {
         due(9, "the latest of dones", op(x, 0, 3), "2 +rs -2 3");
         edit(x, 0, "-1 1 -1 1 -1 -2");
         due(9, "dones go", op(x, 0, 3), "");
+        FarEditors w = told("text abcd editors 2;");
+        w.cut(0, 1, 2);
+        w.type(1, 5);
+        due(9, "a cut keeps what is behind it", op(w, 0, 0), "1 -2 1");
+        due(9, "so does a put", op(w, 1, 0), "+e 4");
         FarEditors y = told("text abc editors 2;edit 0 +x;edit 0 +y;edit 0 -1;");
         due(9, "a buffer that does nothing is one", y.editor(0, 4), 1);
         due(9, "its steps", op(y, 0, 1), "4");
@@ -797,6 +822,11 @@ public final class PromisesTest {
         x.ticks(9);
         due(28, "the text", text(x, 0), "xxyy");
         due(28, "carried by another's: all that is put ahead of it", x.editor(0, 2), 4);
+        FarEditors y = told("text abcdef editors 2;cursor 0 3;cursor 1 3;");
+        edit(y, 0, "-1 1 +xy 1 +z -1 +w");
+        due(28, "a less, x, y, and by an edit of its own z and w", y.editor(0, 2), 6);
+        y.ticks(2);
+        due(28, "a less, x, y, and by another's neither z nor w", y.editor(1, 2), 4);
     }
 
     private static void marks() {
@@ -1071,6 +1101,18 @@ public final class PromisesTest {
         x.back();
         due(37, "cursor", x.editor(0, 2), 0);
         due(37, "no more", x.back(), false);
+        FarEditors w = told("text abc editors 2;edit 0 +x;edit 0 -2;mark 0 1 2 1;");
+        w.undo(0);
+        w.put(0, 0, 26);
+        w.marks(0, 0, 0, 0);
+        w.back();
+        w.back();
+        due(37, "dones", op(w, 0, 3), "-2 2");
+        w.back();
+        due(37, "undos", op(w, 0, 2) + " of " + w.editor(0, 6), "+xa 2 of 2");
+        due(37, "the text", text(w, 0), "bc");
+        due(37, "marks", w.mark(0, 0, 0) * 100 + w.mark(0, 0, 1) * 10 + w.mark(0, 0, 2), 121);
+        due(37, "the buffer", op(w, 0, 1), "-2 2");
         for (int i = 0; i < 25; i++) {
             x.put(0, i, 1 + i);
         }

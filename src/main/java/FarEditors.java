@@ -1663,7 +1663,7 @@ public final class FarEditors {
 
         boolean readOp() {
             open();
-            readSteps();
+            readSteps(NONE);
             if (fault == 0 && at < length) {
                 fail(FAULT_FORM, at);
             }
@@ -1708,7 +1708,7 @@ public final class FarEditors {
                 case TIES: return readNumber(0, 0, 2);
                 case TICK: return readNumber(0, 1, MOST_TICKS);
                 case DELAY: return readEditor() && readNumber(1, 0, MOST_DELAY);
-                case EDIT: return readEditor() && readSteps();
+                case EDIT: return readEditor() && readSteps(';');
                 case CURSOR: return readEditor() && readNumber(1, 0, MOST_NUMBER);
                 case MARK:
                     return readEditor() && readNumber(1, 0, MOST_NUMBER) && readNumber(2, 0, MOST_NUMBER)
@@ -1718,7 +1718,7 @@ public final class FarEditors {
         }
 
         private boolean readText() {
-            if (!readWord(MOST_TOLD_LETTERS)) {
+            if (!readWord(MOST_TOLD_LETTERS) || !endsWell()) {
                 return false;
             }
             wordLength = used;
@@ -1798,10 +1798,7 @@ public final class FarEditors {
                 addPart(bytes[at] - 'a' + 1);
                 at++;
             }
-            if (at == start || isAtLetter()) {
-                return fail(FAULT_FORM, at);
-            }
-            return endsWell();
+            return (at > start && !isAtLetter()) || fail(FAULT_FORM, at);
         }
 
         private boolean readSign(int sign) {
@@ -1852,20 +1849,27 @@ public final class FarEditors {
             }
         }
 
-        private boolean readSteps() {
+        /** The STEPS of an OP that ends at a sign, or, if that is NONE, with the tape. */
+        private boolean readSteps(int sign) {
             setNumber(1, used);
             skipBlanks();
             if (!isAtStep()) {
                 return fail(FAULT_FORM, at);
             }
-            for (int n = 0; n < MOST_STEPS && isAtStep(); n++) {
+            int steps = 0;
+            while (steps < MOST_STEPS && isAtStep()) {
                 if (!readStep()) {
+                    return false;
+                }
+                steps++;
+                // behind the last STEP that there can be, a digit is one too many and not one that lacks a blank
+                if (steps < MOST_STEPS && !endsWell()) {
                     return false;
                 }
                 skipBlanks();
             }
             setNumber(2, used);
-            return !isAtStep() || fail(FAULT_TOO_MANY, at);
+            return steps < MOST_STEPS || look() == NONE || look() == sign || fail(FAULT_TOO_MANY, at);
         }
 
         private boolean isAtStep() {

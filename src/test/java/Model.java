@@ -393,7 +393,6 @@ final class Model {
         if (w.isEmpty()) throw form();
         if (w.length() > most) throw new Fault(1, at + most);
         at += w.length();
-        gap();
         return w;
     }
 
@@ -419,17 +418,17 @@ final class Model {
         return n;
     }
 
-    /** An op as it is told, not in its normal form, and without what is kept behind it. */
-    String op() {
+    /** An op as it is told, up to its end, not in its normal form, and without what is kept behind it. */
+    String op(String end) {
         StringBuilder b = new StringBuilder();
         for (int n = 0; ; n++) {
+            int behind = at;
             blanks();
-            char c = rest().isEmpty() ? 0 : rest().charAt(0);
-            if ("+-0123456789".indexOf(c) < 0) {
-                if (n == 0) throw form();
-                return b.toString();
-            }
+            if (rest().isEmpty() && n > 0 || !end.isEmpty() && rest().startsWith(end) && n > 0) return b.toString();
             if (n == 40) throw new Fault(5, at);
+            if (n > 0 && at == behind && Character.isLetter(text.charAt(at - 1))) gap();
+            char c = rest().isEmpty() ? 0 : rest().charAt(0);
+            if ("+-0123456789".indexOf(c) < 0) throw form();
             if (c == '+') { at++; b.append(word(20)); }
             else if (c == '-') { at++; b.append(times("X", number(1, 99))); }
             else b.append(times("K", number(1, 99)));
@@ -460,6 +459,7 @@ final class Model {
                     : keyword("delay", "ties", "edit", "cursor", "mark", "off", "on", "tick");
                 if (k.equals("text")) {
                     String w = word(40);
+                    gap();
                     keyword("editors");
                     eds = number(2, 4);
                     all.add(new Object[] {k, w, eds});
@@ -469,7 +469,7 @@ final class Model {
                     int e = number(0, eds - 1);
                     switch (k) {
                         case "delay": all.add(new Object[] {k, e, number(0, 9)}); break;
-                        case "edit": all.add(new Object[] {k, e, op()}); break;
+                        case "edit": all.add(new Object[] {k, e, op(";")}); break;
                         case "cursor": all.add(new Object[] {k, e, number(0, 99)}); break;
                         case "mark":
                             all.add(new Object[] {k, e, number(0, 99), number(0, 99), number(0, 3)}); break;
@@ -714,8 +714,7 @@ final class Model {
         if (!is(e)) return no(2);
         String op;
         try {
-            op = op();
-            if (at < text.length()) throw form();
+            op = op("");
         } catch (Fault f) {
             faultKind = f.kind;
             faultPlace = f.place;

@@ -7,6 +7,7 @@ import java.util.Random;
 /** Runs of drawn calls on FarEditors and on the model: every answer, and all that can be asked, is alike. */
 public final class ModelTest {
     private static int wrong = 0;
+    private static final String SIGNS = " \n;+-019abtextedit09Az\u00ff";
     private static final int RUNS = Integer.getInteger("runs", 250);
 
     private final Random draw;
@@ -80,7 +81,7 @@ public final class ModelTest {
 
     private String op(int letters) {
         StringBuilder b = new StringBuilder();
-        int n = 1 + draw.nextInt(draw.nextInt(12) == 0 ? 42 : 6);
+        int n = draw.nextInt(30) == 0 ? 39 + draw.nextInt(3) : 1 + draw.nextInt(draw.nextInt(12) == 0 ? 42 : 6);
         for (int i = 0; i < n; i++) {
             int kind = draw.nextInt(3);
             if (kind == 0) b.append("+ ".substring(0, 1 + draw.nextInt(2))).append(word(draw.nextInt(9) == 0 ? 21 : 3));
@@ -88,6 +89,7 @@ public final class ModelTest {
             if (kind == 2) b.append(1 + draw.nextInt(3 + letters / (n + 1)));
             if (draw.nextInt(200) != 0) b.append(draw.nextBoolean() ? " " : "\n");
         }
+        if (n > 38 && draw.nextBoolean()) b.append(SIGNS.charAt(draw.nextInt(SIGNS.length())));
         return b.toString();
     }
 
@@ -116,15 +118,14 @@ public final class ModelTest {
     }
 
     private String spoilt(String text) {
-        String signs = " \n;+-019abtextedit09Az\u00ff";
         StringBuilder b = new StringBuilder(text);
         int n = 1 + draw.nextInt(2);
         for (int i = 0; i < n && b.length() > 0; i++) {
             int at = draw.nextInt(b.length());
             switch (draw.nextInt(5)) {
                 case 0: b.deleteCharAt(at); break;
-                case 1: b.insert(at, signs.charAt(draw.nextInt(signs.length()))); break;
-                case 2: b.setCharAt(at, signs.charAt(draw.nextInt(signs.length()))); break;
+                case 1: b.insert(at, SIGNS.charAt(draw.nextInt(SIGNS.length()))); break;
+                case 2: b.setCharAt(at, SIGNS.charAt(draw.nextInt(SIGNS.length()))); break;
                 case 3: b.setLength(at); break;
                 default: {
                     int to = Math.min(b.length(), at + draw.nextInt(8));

@@ -263,7 +263,15 @@ public final class PromisesTest {
             {s + "edit 1 +ab3;", "1 at 29"}, {s + "edit 1 100;", "1 at 28"}, {s + "edit1 1;", "1 at 23"}, {s + "edit 1+a;", "0 at -1"},
             {s + "edit 1 +" + times("q", 20) + ";", "0 at -1"}, {s + "edit 1 +" + times("q", 21) + ";", "1 at 47"},
             {s + "edit 1 " + times("1 ", 40) + ";", "0 at -1"}, {s + "edit 1 " + times("1 ", 40) + "+5", "5 at 106"},
-            {s + "edit 1 " + times("1 ", 40) + "-1;", "5 at 106"}, {s + "edit 1 " + times("1 ", 40) + "x", "1 at 106"},
+            {s + "edit 1 " + times("1 ", 40) + "-1;", "5 at 106"}, {s + "edit 1 " + times("1 ", 40) + "x", "5 at 106"},
+            {s + "edit 1 " + times("1 ", 40) + " \n?", "5 at 108"}, {s + "edit 1 " + times("1 ", 40) + "text", "5 at 106"},
+            {s + "edit 1 " + times("1 ", 40), "1 at 106"}, {s + "edit 1 " + times("1 ", 40) + "\n", "1 at 107"},
+            {s + "edit 1 " + times("1 ", 39) + "x", "1 at 104"}, {s + "edit 1 " + times("1 ", 39) + "+x5;", "5 at 106"},
+            {s + "edit 1 " + times("1 ", 38) + "+x5;", "1 at 104"}, {s + "edit 1 " + times("1 ", 39) + "5x;", "5 at 105"},
+            {s + "edit 1 " + times("1 ", 39) + "555;", "1 at 106"}, {s + "edit 1 " + times("1 ", 39) + "0x;", "2 at 104"},
+            {s + "edit 1 " + times("1 ", 39) + "+?;", "1 at 105"},
+            {s + "edit 1 " + times("1 ", 39) + "+" + times("q", 20) + ";", "0 at -1"},
+            {s + "edit 1 " + times("1 ", 39) + "+" + times("q", 21) + ";", "1 at 125"},
             {s + times("on 0;", 59), "0 at -1"}, {s + times("on 0;", 59) + " \n", "0 at -1"},
             {s + times("on 0;", 59) + " on 0;", "5 at 315"}, {s + times("on 0;", 59) + ";", "5 at 314"},
             {s + times("on 0;", 59) + "?", "5 at 314"},
@@ -734,6 +742,16 @@ public final class PromisesTest {
         due(24, "the order of puts", text(x, 1).substring(0, 4), "aaaa");
         due(24, "41 steps", edit(x, 1, times("+a", 41)), NONE);
         due(24, "the fault", fault(x), "5 at 80");
+        String[][] behind = {{"\0", "5 at 80"}, {";", "5 at 80"}, {" \n;", "5 at 82"}, {"7", "5 at 80"}, {" x", "5 at 81"},
+            {"+", "5 at 80"}, {"-0", "5 at 80"}, {"\u00ff", "5 at 80"}, {"Z", "5 at 80"}};
+        for (String[] one : behind) {
+            due(24, "40 steps and " + one[0], edit(x, 1, times("+a", 40) + one[0]), NONE);
+            due(24, "the fault of 40 steps and " + one[0], fault(x), one[1]);
+        }
+        due(24, "39 steps and what is none", edit(x, 1, times("+a", 39) + "?"), NONE);
+        due(24, "the fault", fault(x), "1 at 78");
+        due(24, "39 steps and a digit", edit(x, 1, times("+a", 39) + "7"), NONE);
+        due(24, "the fault", fault(x), "1 at 78");
         due(24, "157 letters more can be put, not 158", edit(x, 1, times("+" + times("b", 20), 7) + "+" + times("b", 18)), NONE);
         due(24, "157 letters", edit(x, 1, times("+" + times("b", 20), 7) + "+" + times("b", 17)), 200);
         due(24, "200 are put", x.has(5), 200);

@@ -720,29 +720,43 @@ public final class FarEditors {
             return n;
         }
 
+        private boolean beginsStep(int i) {
+            return i == 0 || !isPut(parts[i]) || !isPut(parts[i - 1]);
+        }
+
+        int countSteps() {
+            int n = 0;
+            for (int i = 0; i < size; i++) {
+                n += beginsStep(i) ? 1 : 0;
+            }
+            return n;
+        }
+
+        private int findStep(int k) {
+            int before = 0;
+            for (int i = 0; i < size; i++) {
+                if (beginsStep(i)) {
+                    if (before == k) {
+                        return i;
+                    }
+                    before++;
+                }
+            }
+            return NONE;
+        }
+
         /** Where the STEP ends that begins at a part. */
         private int endOfStep(int from) {
             int i = from + 1;
-            while (i < size && isPut(parts[from]) && isPut(parts[i])) {
+            while (i < size && !beginsStep(i)) {
                 i++;
             }
             return i;
         }
 
-        int countSteps() {
-            int n = 0;
-            for (int i = 0; i < size; i = endOfStep(i)) {
-                n++;
-            }
-            return n;
-        }
-
         int ask(int k, int what) {
-            int from = 0;
-            for (int i = 0; i < k && from < size; i++) {
-                from = endOfStep(from);
-            }
-            if (k < 0 || from >= size || what < 0) {
+            int from = findStep(k);
+            if (from == NONE || what < 0) {
                 return NONE;
             }
             int part = parts[from];

@@ -64,7 +64,7 @@ class Quoting extends Asking {
         return text;
     }
 
-    /** A full text: 100 letters for editor 0 (60 p, 40 k), who has them alone. */
+    /** A TEXT of 100 letters (60 p, 40 k) that editor 0 has alone. */
     static FarEditors hundred() {
         return told("text " + times("k", 40) + " editors 2;" + times("edit 0 +" + times("p", 20) + ";", 3));
     }
